@@ -33,22 +33,28 @@ public final class CheckTest {
 
     /** No call can bring about a 0, so the numbers inside are damaged by hand to see one. */
     private static void damaged(Due due) throws ReflectiveOperationException {
-        due.is("check() with a wrong term", damaged("quotients", 1), 0);
-        due.is("check() with a wrong last term", damaged("quotients", 2), 0);
-        due.is("check() with a wrong convergent's top", damaged("tops", 2), 0);
-        due.is("check() with a wrong convergent's bottom", damaged("bottoms", 2), 0);
-        due.is("check() with a wrong top", damaged("tops", 3), 0);
-        due.is("check() with a wrong bottom", damaged("bottoms", 3), 0);
+        String[] names = {"quotients", "tops", "bottoms"};
+        int[] first = {0, 1, 1};
+        for (int i = 0; i < names.length; i++) {
+            for (int at = first[i]; at < first[i] + 3; at++) {
+                SternDesk desk = Plain.deskWith(355, 113);
+                inside(desk, names[i])[at]++;
+                due.is("check() with " + names[i] + "[" + at + "] more by 1", desk.check(), 0);
+            }
+        }
+        // 25 / 8 is a neighbour of convergent 0, which is 3 / 1, but not of 355 / 113.
+        SternDesk desk = Plain.deskWith(355, 113);
+        inside(desk, "tops")[2] = 25;
+        inside(desk, "bottoms")[2] = 8;
+        due.is("check() with 25 / 8 as convergent 1", desk.check(), 0);
     }
 
-    private static int damaged(String name, int at) throws ReflectiveOperationException {
-        SternDesk desk = Plain.deskWith(355, 113);
+    private static int[] inside(SternDesk desk, String name) throws ReflectiveOperationException {
         Field hand = SternDesk.class.getDeclaredField("hand");
         hand.setAccessible(true);
-        Object inside = hand.get(desk);
-        Field numbers = inside.getClass().getDeclaredField(name);
+        Object expansion = hand.get(desk);
+        Field numbers = expansion.getClass().getDeclaredField(name);
         numbers.setAccessible(true);
-        ((int[]) numbers.get(inside))[at]++;
-        return desk.check();
+        return (int[]) numbers.get(expansion);
     }
 }
