@@ -186,7 +186,7 @@ public final class SternDesk {
         int top = hand.top();
         int bottom = hand.bottom();
         int nextBottom = Rows.bottomBehind(n, top, bottom);
-        int nextTop = (top * nextBottom + 1) / bottom;
+        int nextTop = bottom > 0 ? (top * nextBottom + 1) / bottom : 0;
         for (int i = 0; i < places && nextBottom > 0; i++) {
             int times = (n + bottom) / nextBottom;
             int thirdTop = times * nextTop - top;
@@ -450,7 +450,7 @@ public final class SternDesk {
             for (int i = 0; i < MOST_ROW && first <= n; i++) {
                 // All divisors that leave the same quotient count the same pairs.
                 int quotient = n / first;
-                int last = n / quotient;
+                int last = quotient > 0 ? n / quotient : n;
                 sum += (moebiusSums[last] - moebiusSums[first - 1]) * sumOfFloors(quotient, p, p - 1, q);
                 first = last + 1;
             }

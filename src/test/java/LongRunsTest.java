@@ -90,9 +90,9 @@ public final class LongRunsTest {
     }
 
     private void between(String before) {
-        int p = size(5002);
+        int p = size(5003) - 1;
         int q = size(5002);
-        int r = size(5002);
+        int r = size(5003) - 1;
         int s = size(5002);
         String call = "between(" + p + ", " + q + ", " + r + ", " + s + ")";
         if (Plain.mayBetween(p, q, r, s)) {
@@ -104,8 +104,9 @@ public final class LongRunsTest {
 
     private void near(String before) {
         int n = size(1002);
-        int way = random.nextInt(3);
-        int what = random.nextInt(2);
+        boolean mayBeWrong = random.nextInt(5) == 0;
+        int way = mayBeWrong ? random.nextInt(5) - 1 : random.nextInt(3);
+        int what = mayBeWrong ? random.nextInt(4) - 1 : random.nextInt(2);
         String call = "near(" + n + ", " + way + ", " + what + ")";
         if (Plain.mayNear(n, way, what)) {
             compare(before, call, desk.near(n, way, what), plain.near(n, way, what));
